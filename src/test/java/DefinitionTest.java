@@ -4,8 +4,9 @@ import java.util.List;
 import java.util.Set;
 
 /**
- * Long runs of calls, compared with a second program that goes through all orders and writes every
- * rest function out as the document defines it. The runs come from a fixed sequence of numbers.
+ * Every three functions of one and two variables and long runs of calls, compared with a second
+ * program that goes through all orders and writes every rest function out as the document defines
+ * it. The runs come from a fixed sequence of numbers.
  */
 public final class DefinitionTest {
     private static final int RUNS_FOR_EACH_N = 24;
@@ -31,6 +32,9 @@ public final class DefinitionTest {
     }
 
     public static void main(String[] args) {
+        everyThreeFunctions(1);
+        everyThreeFunctions(2);
+        everyFunctionOfThreeVariables();
         for (int n = 1; n <= 5; n++) {
             for (int run = 0; run < RUNS_FOR_EACH_N; run++) {
                 new DefinitionTest(n).compare(run);
@@ -39,6 +43,47 @@ public final class DefinitionTest {
         System.out.println(wrong == 0 ? "all answers are as due" : wrong + " answers are not as due");
         if (wrong != 0) {
             System.exit(1);
+        }
+    }
+
+    private static void everyThreeFunctions(int n) {
+        int tables = 1 << (1 << n);
+        for (int first = 0; first < tables; first++) {
+            for (int second = 0; second < tables; second++) {
+                for (int third = 0; third < tables; third++) {
+                    new DefinitionTest(n).compareAnswers(first, second, third);
+                }
+            }
+        }
+    }
+
+    private static void everyFunctionOfThreeVariables() {
+        for (int bits = 0; bits < 256; bits++) {
+            new DefinitionTest(3).compareAnswers(bits, 0, 0);
+            new DefinitionTest(3).compareAnswers(bits, 0xCA, 255 - bits);
+        }
+    }
+
+    /** All that can be asked of the three functions, the order turned by a swap after the first time. */
+    private void compareAnswers(int first, int second, int third) {
+        OrderFinder x = new OrderFinder(n);
+        String where = "n=" + n + " functions " + first + ", " + second + ", " + third + ": ";
+        due(where + "load(0)", x.load(0, first), load(0, first));
+        due(where + "load(1)", x.load(1, second), load(1, second));
+        due(where + "load(2)", x.load(2, third), load(2, third));
+        for (int time = 0; time < 2; time++) {
+            due(where + "size()", x.size(), size(order));
+            due(where + "least()", x.least(), extreme(-1, -1, false));
+            due(where + "greatest()", x.greatest(), extreme(-1, -1, true));
+            for (int place = 0; place < n; place++) {
+                due(where + "width(" + place + ")", x.width(place), width(order, place));
+                due(where + "best(" + place + ")", x.best(place), best()[place]);
+                for (int variable = 0; variable < n; variable++) {
+                    due(where + "leastWith(" + variable + ", " + place + ")", x.leastWith(variable, place),
+                            extreme(variable, place, false));
+                }
+            }
+            due(where + "swap(0, n-1)", x.swap(0, n - 1), swap(0, n - 1));
         }
     }
 
