@@ -10,7 +10,11 @@ import java.util.Set;
  */
 public final class DefinitionTest {
     private static final int RUNS_FOR_EACH_N = 24;
-    private static final int CALLS = 400;
+    /** As many as an object is used for. */
+    private static final int CALLS = 512;
+    private static final int KINDS_OF_TABLES = 6;
+    private static final int[] SINGLE = {0xAAAAAAAA, 0xCCCCCCCC, 0xF0F0F0F0, 0xFF00FF00, 0xFFFF0000};
+    private static final int[] ELSEWHERE = {Integer.MIN_VALUE, -32, -2, 5, 32, 33, 64, Integer.MAX_VALUE};
 
     private static int wrong = 0;
     private static long sequence = 20261115L;
@@ -89,21 +93,22 @@ public final class DefinitionTest {
 
     private void compare(int run) {
         OrderFinder x = new OrderFinder(n);
-        int kind = run % 4;
+        int kind = run % KINDS_OF_TABLES;
         for (int call = 0; call < CALLS; call++) {
             int which = next(11);
-            int place = next(n + 2) - 1;
-            int other = next(n + 2) - 1;
-            int function = next(8) == 0 ? next(5) - 1 : next(3);
-            int assignment = next(8) == 0 ? next((1 << n) + 4) - 2 : next(1 << n);
+            // Long stretches between loads let flips and swaps add up.
+            if (which == 0 && next(4) != 0) {
+                which = 1;
+            }
+            int place = mostlyInRange(n);
+            int other = mostlyInRange(n);
+            int function = mostlyInRange(3);
+            int assignment = mostlyInRange(1 << n);
             String where = "n=" + n + " run " + run + " call " + call + ": ";
             switch (which) {
                 case 0: {
-                    // Long stretches between loads let flips and swaps add up.
-                    if (next(4) == 0) {
-                        int bits = bitsOfKind(kind);
-                        due(where + "load(" + function + ", " + bits + ")", x.load(function, bits), load(function, bits));
-                    }
+                    int bits = bitsOfKind(kind);
+                    due(where + "load(" + function + ", " + bits + ")", x.load(function, bits), load(function, bits));
                     break;
                 }
                 case 1:
@@ -265,7 +270,7 @@ public final class DefinitionTest {
     }
 
     /** Evenly mixed tables hardly tell orders apart, so sparse and structured ones are drawn too. */
-    private static int bitsOfKind(int kind) {
+    private int bitsOfKind(int kind) {
         int bits = nextBits();
         switch (kind) {
             case 0:
@@ -273,15 +278,45 @@ public final class DefinitionTest {
             case 1:
                 return bits & nextBits() & nextBits();
             case 2: {
-                int[] single = {0xAAAAAAAA, 0xCCCCCCCC, 0xF0F0F0F0, 0xFF00FF00, 0xFFFF0000};
-                int v = single[next(5)];
-                int w = single[next(5)];
-                int u = single[next(5)];
-                int t = single[next(5)];
+                int v = SINGLE[next(5)];
+                int w = SINGLE[next(5)];
+                int u = SINGLE[next(5)];
+                int t = SINGLE[next(5)];
                 return next(2) == 0 ? (v & w) | (u & t) : (v & w) | (~v & (u ^ t));
             }
-            default:
+            case 3:
                 return (bits & 0xFFFF) * 0x10001;
+            case 4:
+                return next(3) == 0 ? bits : bitsOfARelative();
+            default:
+                return bitsOfKind(next(KINDS_OF_TABLES - 1));
+        }
+    }
+
+    /** A table that has rest functions in common with a function that the object holds. */
+    private int bitsOfARelative() {
+        boolean[] function = functions[next(3)];
+        int variable = 1 << next(n);
+        int change = next(5);
+        int bits = 0;
+        for (int a = 0; a < function.length; a++) {
+            int source = change == 1 ? a | variable : change == 2 ? a & ~variable : change == 3 ? a ^ variable : a;
+            bits |= function[source] != (change == 4) ? 1 << a : 0;
+        }
+        return bits;
+    }
+
+    /** Mostly from 0 to bound - 1; now and then next to that range, or anywhere. */
+    private static int mostlyInRange(int bound) {
+        switch (next(16)) {
+            case 0:
+                return -1;
+            case 1:
+                return bound;
+            case 2:
+                return ELSEWHERE[next(ELSEWHERE.length)];
+            default:
+                return next(bound);
         }
     }
 
